@@ -1,0 +1,44 @@
+/** Counts and prints the answers that are not the ones due; a boolean counts 1 or 0. */
+final class Due {
+    private int wrong = 0;
+    private int asked = 0;
+
+    void is(String call, long got, long want) {
+        asked++;
+        if (got != want) {
+            wrong++;
+            System.out.println(call + " answered " + got + ", due is " + want);
+        }
+    }
+
+    void is(String call, boolean got, boolean want) {
+        is(call, got ? 1L : 0L, want ? 1L : 0L);
+    }
+
+    void is(String call, String got, String want) {
+        asked++;
+        if (!got.equals(want)) {
+            wrong++;
+            System.out.println(call + " answered " + got + ", due is " + want);
+        }
+    }
+
+    void yes(String call, boolean got) {
+        is(call, got, true);
+    }
+
+    void no(String call, boolean got) {
+        is(call, got, false);
+    }
+
+    boolean allRight() {
+        return wrong == 0;
+    }
+
+    void end(String test) {
+        System.out.println(test + ": " + (asked - wrong) + " of " + asked + " answers are as due");
+        if (wrong != 0 || asked == 0) {
+            System.exit(1);
+        }
+    }
+}
