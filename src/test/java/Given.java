@@ -7,8 +7,9 @@ final class Given {
 
     /** Puts these characters into a text in place of what it was. */
     static void text(ScriptText x, int text, int... characters) {
-        for (int i = 0; i < MOST; i++) {
-            x.erase(text, 0);
+        boolean wasOne = true;
+        for (int i = 0; i < MOST && wasOne; i++) {
+            wasOne = x.erase(text, 0);
         }
         for (int i = 0; i < characters.length; i++) {
             if (!x.insert(text, i, characters[i])) {
