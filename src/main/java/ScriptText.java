@@ -44,6 +44,9 @@ public final class ScriptText {
     private static final int CASE_UPPER = 1;
     private static final int CASE_TITLE = 2;
 
+    private static final int CLUSTERS = 0;
+    private static final int WORDS = 1;
+
     private static final int CONTROL = 1;
     private static final int EXTEND = 2;
     private static final int PREPEND = 3;
@@ -233,13 +236,10 @@ public final class ScriptText {
     }
 
     public int breaks(int text, int kind) {
-        if (!isText(text)) {
+        if (!isText(text) || kind != CLUSTERS && kind != WORDS) {
             return 0;
         }
-        if (kind == 0) {
-            return clusterBreaks(text);
-        }
-        return kind == 1 ? wordBreaks(text) : 0;
+        return findBreaks(text, kind);
     }
 
     public int level(int text, int base, int at) {
@@ -288,7 +288,7 @@ public final class ScriptText {
             return NONE;
         }
         int length = lengths[0];
-        int places = length == 0 ? 1 : clusterBreaks(0);
+        int places = length == 0 ? 1 : findBreaks(0, CLUSTERS);
         loadSide(1, 1, 0, lengths[1]);
         for (int s = 0; s <= length; s++) {
             int e = isIn(places, s) ? firstMatchEnd(s, places, level) : NONE;
@@ -614,7 +614,7 @@ public final class ScriptText {
     }
 
     private void makeTitle(int text) {
-        int words = wordBreaks(text);
+        int words = findBreaks(text, WORDS);
         boolean letterDue = false;
         for (int i = 0; i < lengths[text]; i++) {
             if (isIn(words, i)) {
@@ -683,15 +683,12 @@ public final class ScriptText {
         return kinds[texts[text * TEXT_LIMIT + at]];
     }
 
-    private int endBreaks(int length) {
-        return length > 0 ? 1 | 1 << length : 0;
-    }
-
-    private int clusterBreaks(int text) {
+    private int findBreaks(int text, int kind) {
         int length = lengths[text];
-        int places = endBreaks(length);
+        int places = length > 0 ? 1 | 1 << length : 0;
         for (int at = 1; at < length; at++) {
-            if (breaksCluster(text, at)) {
+            boolean isBroken = kind == CLUSTERS ? breaksCluster(text, at) : breaksWord(text, at);
+            if (isBroken) {
                 places |= 1 << at;
             }
         }
@@ -705,17 +702,6 @@ public final class ScriptText {
             return x == CONTROL;
         }
         return x != PREPEND || y == CONTROL;
-    }
-
-    private int wordBreaks(int text) {
-        int length = lengths[text];
-        int places = endBreaks(length);
-        for (int at = 1; at < length; at++) {
-            if (breaksWord(text, at)) {
-                places |= 1 << at;
-            }
-        }
-        return places;
     }
 
     private boolean breaksWord(int text, int at) {
@@ -734,7 +720,7 @@ public final class ScriptText {
         return !isJoined(x, y) && !isBridged(x, y, z) && !isBridged(w, x, y);
     }
 
-    /** An EXTEND that is found counts as OTHER; no rule names either, so it needs no change. */
+    /** An EXTEND found here would be OTHER; its kind is left, because no rule names either. */
     private int wordCharacterUpTo(int text, int at) {
         for (int i = at; i > 0; i--) {
             if (kindAt(text, i) != EXTEND || kindAt(text, i - 1) == CONTROL) {
