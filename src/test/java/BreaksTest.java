@@ -1,9 +1,6 @@
 /** Promise 10: clusters and words. */
 public final class BreaksTest {
-    private static final int FAR = Integer.MAX_VALUE;
-    private static final int DEEP = Integer.MIN_VALUE;
-    /** A kind's place here is its number; character k is given the kind k. */
-    private static final String KINDS = "OCEPLDMJ";
+    private static final String KINDS = Given.KINDS;
 
     public static void main(String[] args) {
         Due due = new Due();
@@ -11,35 +8,14 @@ public final class BreaksTest {
         wordsOfTwo(due);
         wordsWithMiddles(due);
         extendsArePassed(due);
-        extendsWithNothingToExtend(due);
         longTexts(due);
-        wrongCalls(due);
         due.end("BreaksTest");
     }
 
-    private static ScriptText withKinds() {
-        ScriptText x = new ScriptText();
-        for (int k = 0; k < 8; k++) {
-            Given.described(x, k, 8, k, 0);
-        }
-        return x;
-    }
-
-    /** The text with a bar at each break. */
     private static String barred(String kinds, int kindOfBreaks) {
-        ScriptText x = withKinds();
-        int[] characters = new int[kinds.length()];
-        for (int i = 0; i < characters.length; i++) {
-            characters[i] = KINDS.indexOf(kinds.charAt(i));
-        }
-        Given.text(x, 1, characters);
-        int sum = x.breaks(1, kindOfBreaks);
-        StringBuilder row = new StringBuilder();
-        for (int place = 0; place <= characters.length; place++) {
-            row.append((sum >> place & 1) == 1 ? "|" : "");
-            row.append(place < characters.length ? kinds.substring(place, place + 1) : "");
-        }
-        return row + (sum >> characters.length + 1 == 0 ? "" : " and more");
+        ScriptText x = Given.withKinds();
+        Given.row(x, 1, KINDS, kinds);
+        return Given.barred(kinds, x.breaks(1, kindOfBreaks));
     }
 
     private static void cluster(Due due, String want) {
@@ -123,20 +99,6 @@ public final class BreaksTest {
         word(due, "|LE|MEE|MEE|L|");
     }
 
-    private static void extendsWithNothingToExtend(Due due) {
-        word(due, "|E|L|");
-        word(due, "|EE|L|");
-        word(due, "|C|E|L|");
-        word(due, "|C|EE|L|");
-        word(due, "|L|C|E|L|");
-        word(due, "|L|C|EE|ME|L|");
-        word(due, "|E|M|L|");
-        word(due, "|EE|J|");
-        word(due, "|C|E|J|");
-        word(due, "|C|C|E|C|");
-        word(due, "|C|E|O|");
-    }
-
     private static void longTexts(Due due) {
         word(due, "|LLLLLLLLLLLLLLLL|");
         word(due, "|LEEEEEEEEEEEEEEL|");
@@ -144,20 +106,5 @@ public final class BreaksTest {
         word(due, "|O|O|O|O|O|O|O|O|O|O|O|O|O|O|O|O|");
         cluster(due, "|O|O|O|O|O|O|O|O|O|O|O|O|O|O|O|O|");
         cluster(due, "|PEEEEEEEEEEEEEEE|");
-    }
-
-    private static void wrongCalls(Due due) {
-        ScriptText x = new ScriptText();
-        Given.text(x, 0, 4, 5);
-        Given.text(x, 1, 4);
-        int[] wrong = {-1, 2, FAR, DEEP};
-        for (int w : wrong) {
-            due.is("breaks(" + w + ", 0)", x.breaks(w, 0), 0);
-            due.is("breaks(" + w + ", 1)", x.breaks(w, 1), 0);
-            due.is("breaks(0, " + w + ")", x.breaks(0, w), 0);
-        }
-        due.is("breaks(0, 0)", x.breaks(0, 0), 7);
-        due.is("breaks(1, 0)", x.breaks(1, 0), 3);
-        due.is("breaks(1, 1)", x.breaks(1, 1), 3);
     }
 }

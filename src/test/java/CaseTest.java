@@ -1,7 +1,5 @@
 /** Promise 7: lower, upper, title and folded case. */
 public final class CaseTest {
-    private static final int FAR = Integer.MAX_VALUE;
-    private static final int DEEP = Integer.MIN_VALUE;
     private static final int OTHER = 0;
     private static final int CONTROL = 1;
     private static final int EXTEND = 2;
@@ -19,8 +17,6 @@ public final class CaseTest {
         finalFormsByTheTextAsItWas(due);
         titles(due);
         folded(due);
-        longestResult(due);
-        wrongCalls(due);
         due.end("CaseTest");
     }
 
@@ -134,34 +130,5 @@ public final class CaseTest {
         Given.text(x, 0, LETTER, 30);
         due.is("never the final form", Given.cased(x, 0, 3), "2: 4 31");
         due.is("as lower has it", Given.cased(x, 0, 0), "2: 4 32");
-    }
-
-    private static void longestResult(Due due) {
-        ScriptText x = script();
-        Given.text(x, 0, FULL, FULL, FULL, FULL, FULL, FULL, FULL, FULL, FULL, FULL, FULL, FULL, FULL, FULL, FULL, FULL);
-        due.is("cased(0, 1)", x.cased(0, 1), 32);
-        due.is("result(31)", x.result(31), 13);
-        due.is("result(32)", x.result(32), -1);
-        due.no("take(1)", x.take(1));
-        due.is("cased(0, 2)", x.cased(0, 2), 17);
-        due.is("cased(0, 3)", x.cased(0, 3), 32);
-        due.is("cased(0, 0)", x.cased(0, 0), 16);
-        due.is("the last stands finally", x.result(15), 14);
-    }
-
-    private static void wrongCalls(Due due) {
-        ScriptText x = script();
-        Given.text(x, 0, 20, 21);
-        x.cased(0, 0);
-        Given.text(x, 0, 22);
-        int[] wrongTexts = {-1, 2, FAR, DEEP};
-        int[] wrongCases = {-1, 4, FAR, DEEP};
-        for (int w : wrongTexts) {
-            due.is("cased(" + w + ", 0)", x.cased(w, 0), -1);
-        }
-        for (int w : wrongCases) {
-            due.is("cased(0, " + w + ")", x.cased(0, w), -1);
-        }
-        due.is("the result stays", Given.result(x), "20 21");
     }
 }

@@ -2,27 +2,9 @@
 public final class NewObjectTest {
     public static void main(String[] args) {
         Due due = new Due();
-        bothTextsAndTheResultAreEmpty(due);
         everyCharacterIsPlain(due);
         objectsAreApart(due);
         due.end("NewObjectTest");
-    }
-
-    private static void bothTextsAndTheResultAreEmpty(Due due) {
-        ScriptText x = new ScriptText();
-        due.is("result(0)", x.result(0), -1);
-        for (int text = 0; text < 2; text++) {
-            due.no("erase(text, 0)", x.erase(text, 0));
-            due.is("breaks(text, 0)", x.breaks(text, 0), 0);
-            due.is("breaks(text, 1)", x.breaks(text, 1), 0);
-            due.is("level(text, 0, 0)", x.level(text, 0, 0), -1);
-            due.is("onPage(text, 0, 0)", x.onPage(text, 0, 0), -1);
-            due.is("key(text, 1, 0)", x.key(text, 1, 0), 0);
-            due.is("normal(text, 0)", x.normal(text, 0), 0);
-            due.is("cased(text, 1)", x.cased(text, 1), 0);
-        }
-        due.is("compare(4)", x.compare(4), 0);
-        due.is("search(4)", x.search(4), 0);
     }
 
     private static void everyCharacterIsPlain(Due due) {

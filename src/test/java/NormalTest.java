@@ -1,8 +1,5 @@
 /** Promises 5 and 6: the normal forms. */
 public final class NormalTest {
-    private static final int FAR = Integer.MAX_VALUE;
-    private static final int DEEP = Integer.MIN_VALUE;
-
     public static void main(String[] args) {
         Due due = new Due();
         decompositionsGoAllTheWay(due);
@@ -15,7 +12,6 @@ public final class NormalTest {
         singleDecompositionsAreNotComposed(due);
         sixtyFourAreTheMost(due);
         textsThatAreNormal(due);
-        wrongCalls(due);
         due.end("NormalTest");
     }
 
@@ -198,23 +194,5 @@ public final class NormalTest {
             due.is(java.util.Arrays.toString(characters) + " isNormal " + form, x.isNormal(0, form), want);
         }
         due.is("the result is left alone", Given.result(x), "7");
-    }
-
-    private static void wrongCalls(Due due) {
-        ScriptText x = new ScriptText();
-        Given.text(x, 0, 4, 5);
-        x.normal(0, 0);
-        Given.text(x, 0);
-        int[] wrongTexts = {-1, 2, FAR, DEEP};
-        int[] wrongForms = {-1, 4, FAR, DEEP};
-        for (int w : wrongTexts) {
-            due.is("normal(" + w + ", 0)", x.normal(w, 0), -1);
-            due.no("isNormal(" + w + ", 0)", x.isNormal(w, 0));
-        }
-        for (int w : wrongForms) {
-            due.is("normal(0, " + w + ")", x.normal(0, w), -1);
-            due.no("isNormal(0, " + w + ")", x.isNormal(0, w));
-        }
-        due.is("the result stays", Given.result(x), "4 5");
     }
 }

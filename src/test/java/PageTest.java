@@ -1,9 +1,6 @@
 /** Promises 11 and 12: levels and the order on the page. */
 public final class PageTest {
-    private static final int FAR = Integer.MAX_VALUE;
-    private static final int DEEP = Integer.MIN_VALUE;
-    /** A direction's place here is its number; character k is given the direction k. */
-    private static final String DIRECTIONS = "LRNO([)";
+    private static final String DIRECTIONS = Given.DIRECTIONS;
 
     public static void main(String[] args) {
         Due due = new Due();
@@ -14,20 +11,12 @@ public final class PageTest {
         deepEmbeddings(due);
         endsOfEmbeddings(due);
         pages(due);
-        wrongCalls(due);
         due.end("PageTest");
     }
 
     private static ScriptText script(String directions) {
-        ScriptText x = new ScriptText();
-        int[] characters = new int[directions.length()];
-        for (int k = 0; k < 7; k++) {
-            Given.described(x, k, 14, k, 0);
-        }
-        for (int i = 0; i < characters.length; i++) {
-            characters[i] = DIRECTIONS.indexOf(directions.charAt(i));
-        }
-        Given.text(x, 1, characters);
+        ScriptText x = Given.withDirections();
+        Given.row(x, 1, DIRECTIONS, directions);
         return x;
     }
 
@@ -157,24 +146,5 @@ public final class PageTest {
         page(due, "L(LRL)L", 0, "0 1 4 3 2 5 6");
         page(due, "RRRRRRRRRRRRRRRR", 0, "15 14 13 12 11 10 9 8 7 6 5 4 3 2 1 0");
         page(due, "LRLRLRLRLRLRLRLR", 1, "15 14 13 12 11 10 9 8 7 6 5 4 3 2 1 0");
-    }
-
-    private static void wrongCalls(Due due) {
-        ScriptText x = script("RN");
-        Given.text(x, 0, 0);
-        int[] wrong = {-1, 2, FAR, DEEP};
-        for (int w : wrong) {
-            due.is("level(" + w + ", 0, 0)", x.level(w, 0, 0), -1);
-            due.is("level(1, " + w + ", 0)", x.level(1, w, 0), -1);
-            due.is("level(1, 0, " + w + ")", x.level(1, 0, w), -1);
-            due.is("onPage(" + w + ", 0, 0)", x.onPage(w, 0, 0), -1);
-            due.is("onPage(1, " + w + ", 0)", x.onPage(1, w, 0), -1);
-            due.is("onPage(1, 0, " + w + ")", x.onPage(1, 0, w), -1);
-        }
-        due.is("level(0, 0, 1)", x.level(0, 0, 1), -1);
-        due.is("onPage(0, 0, 1)", x.onPage(0, 0, 1), -1);
-        due.is("onPage(0, 0, 0)", x.onPage(0, 0, 0), 0);
-        due.is("level(1, 0, 1)", x.level(1, 0, 1), 2);
-        due.is("onPage(1, 0, 1)", x.onPage(1, 0, 1), 0);
     }
 }

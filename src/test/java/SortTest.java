@@ -1,7 +1,5 @@
 /** Promises 13, 14 and 15: sort keys, comparison and search. */
 public final class SortTest {
-    private static final int FAR = Integer.MAX_VALUE;
-    private static final int DEEP = Integer.MIN_VALUE;
     private static final int EXTEND = 2;
     private static final int PREPEND = 3;
 
@@ -11,16 +9,11 @@ public final class SortTest {
         contractions(due);
         expansions(due);
         keysComeOfFormZero(due);
-        longestKey(due);
-        wrongKeys(due);
         keysDecideInTurn(due);
-        whatEndsFirstIsLess(due);
         formsDecideLast(due);
         leastPlaceAndEnd(due);
         onlyAtClusters(due);
         partsAreTakenAlone(due);
-        emptyTexts(due);
-        wrongLevels(due);
         callsLeaveTheResult(due);
         due.end("SortTest");
     }
@@ -98,40 +91,6 @@ public final class SortTest {
         due.is("decomposed canonically, ordered, contracted", Given.key(x, 0, 1), "10 3 22");
     }
 
-    private static void longestKey(Due due) {
-        ScriptText x = new ScriptText();
-        Given.described(x, 10, 1, 0, 0);
-        Given.described(x, 20, 1, 10, 10);
-        Given.described(x, 0, 10, 5, 6);
-        Given.text(x, 1, 20, 20, 20, 20, 20, 20, 20, 20, 20, 20, 20, 20, 20, 20, 20, 20);
-        due.is("key(1, 1, 126)", x.key(1, 1, 126), 6);
-        due.is("key(1, 1, 127)", x.key(1, 1, 127), 7);
-        due.is("key(1, 3, 127)", x.key(1, 3, 127), 1);
-        due.is("key(1, 1, 128)", x.key(1, 1, 128), 0);
-        x.insert(0, 0, 5);
-        due.is("compare(4)", x.compare(4), -1);
-        due.is("search(4)", x.search(4), -1);
-    }
-
-    private static void wrongKeys(Due due) {
-        ScriptText x = new ScriptText();
-        Given.text(x, 0, 5);
-        Given.text(x, 1, 5);
-        int[] wrongTexts = {-1, 2, FAR, DEEP};
-        int[] wrongLevels = {0, 4, -1, FAR, DEEP};
-        int[] wrongPlaces = {-1, 1, FAR, DEEP};
-        for (int w : wrongTexts) {
-            due.is("key(" + w + ", 1, 0)", x.key(w, 1, 0), 0);
-        }
-        for (int w : wrongLevels) {
-            due.is("key(0, " + w + ", 0)", x.key(0, w, 0), 0);
-        }
-        for (int w : wrongPlaces) {
-            due.is("key(0, 1, " + w + ")", x.key(0, 1, w), 0);
-        }
-        due.is("key(0, 1, 0)", x.key(0, 1, 0), 6);
-    }
-
     private static void compared(Due due, ScriptText x, int... wants) {
         for (int level = 1; level <= 4; level++) {
             due.is("compare(" + level + ")", x.compare(level), wants[level - 1]);
@@ -161,23 +120,6 @@ public final class SortTest {
         Given.text(x, 0, 11, 10);
         Given.text(x, 1, 10, 11);
         compared(due, x, 0, 0, 1, 1);
-    }
-
-    private static void whatEndsFirstIsLess(Due due) {
-        ScriptText x = new ScriptText();
-        Given.described(x, 6, 9, 0, 10);
-        Given.text(x, 0, 5);
-        Given.text(x, 1, 5, 0);
-        compared(due, x, -1, -1, -1, -1);
-        Given.text(x, 0, 5, 0, 0);
-        compared(due, x, 1, 1, 1, 1);
-        Given.text(x, 0, 5, 1);
-        compared(due, x, 1, 1, 1, 1);
-        Given.text(x, 0, 5, 6);
-        Given.text(x, 1, 5);
-        compared(due, x, 0, 1, 1, 1);
-        Given.text(x, 0, 4, 6);
-        compared(due, x, -1, -1, -1, -1);
     }
 
     private static void formsDecideLast(Due due) {
@@ -267,31 +209,6 @@ public final class SortTest {
         searched(due, x, 32 + 2, 32 + 2, 32 + 2, 32 + 2);
         Given.text(x, 1, 8, 9);
         searched(due, x, 2, 2, 2, 2);
-    }
-
-    private static void emptyTexts(Due due) {
-        ScriptText x = new ScriptText();
-        Given.described(x, 6, 9, 0, 0);
-        compared(due, x, 0, 0, 0, 0);
-        searched(due, x, 0, 0, 0, 0);
-        Given.text(x, 0, 5);
-        compared(due, x, 1, 1, 1, 1);
-        searched(due, x, 0, 0, 0, 0);
-        Given.text(x, 1, 6);
-        searched(due, x, 0, 0, 0, -1);
-        Given.text(x, 0);
-        searched(due, x, 0, 0, 0, -1);
-        Given.text(x, 1, 5);
-        searched(due, x, -1, -1, -1, -1);
-    }
-
-    private static void wrongLevels(Due due) {
-        ScriptText x = new ScriptText();
-        int[] wrong = {0, 5, -1, FAR, DEEP};
-        for (int w : wrong) {
-            due.is("compare(" + w + ")", x.compare(w), 2);
-            due.is("search(" + w + ")", x.search(w), -1);
-        }
     }
 
     private static void callsLeaveTheResult(Due due) {
