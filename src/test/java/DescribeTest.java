@@ -1,4 +1,6 @@
-/** Promise 2 (describe): what is described anew takes the place of what was. */
+import java.util.List;
+
+/** Promise 2 (describe): what is described anew takes the place of what was, and of nothing else. */
 public final class DescribeTest {
     public static void main(String[] args) {
         Due due = new Due();
@@ -8,6 +10,7 @@ public final class DescribeTest {
         kindsAndDirections(due);
         weightsAndExpansions(due);
         contractionsHaveAnOrder(due);
+        whatIsSoAlreadyChangesNothing(due);
         due.end("DescribeTest");
     }
 
@@ -102,5 +105,31 @@ public final class DescribeTest {
         due.is("the other order taken away", Given.key(x, 0, 1), "41 3 2");
         Given.described(x, 2, 12, 1, 41);
         due.is("both", Given.key(x, 0, 1), "41 42");
+    }
+
+    /** What Views.described() says, said again, with any numbers where an operand is not used. */
+    private static void whatIsSoAlreadyChangesNothing(Due due) {
+        int unused = Integer.MIN_VALUE;
+        int[][] again = {
+            {25, 0, 3, unused}, {0, 0, 0, unused}, {20, 1, 1, 2}, {30, 1, 6, -1}, {21, 2, 20, 5},
+            {0, 3, unused, unused}, {25, 3, unused, unused}, {23, 4, 1, unused}, {25, 4, 0, unused},
+            {25, 5, 8, unused}, {1, 5, 1, unused}, {25, 6, 12, 11}, {47, 6, 13, -1}, {1, 6, 1, -1},
+            {25, 7, 17, unused}, {1, 7, -1, unused}, {25, 8, 4, unused}, {1, 8, 0, unused},
+            {25, 9, 76, 88}, {47, 9, 0, 0}, {1, 9, 2, 11}, {25, 10, 17, 18}, {20, 11, unused, unused},
+            {0, 11, unused, unused}, {25, 12, 26, 32}, {10, 12, 11, 30}, {26, 13, 25, unused},
+            {25, 13, 0, unused}, {25, 14, 1, unused}, {0, 14, 0, unused},
+        };
+        List<Views.View> views = Views.all();
+        for (Views.View view : views) {
+            String before = view.read().apply(Views.described());
+            for (int[] d : again) {
+                for (int any : new int[] {0, 1, 5}) {
+                    ScriptText x = Views.described();
+                    Given.described(x, d[0], d[1], d[2] == unused ? any : d[2], d[3] == unused ? any : d[3]);
+                    String call = view.name() + " behind another describe(" + d[0] + ", " + d[1] + ", ..)";
+                    due.is(call, view.read().apply(x), before);
+                }
+            }
+        }
     }
 }

@@ -2,7 +2,6 @@
 public final class EdgesOfAnswersTest {
     private static final int EXTEND = 2;
     private static final int LETTER = 4;
-    private static final String SIXTEEN_OTHERS = "OOOOOOOOOOOOOOOO";
 
     private final Due due = new Due();
 
@@ -80,7 +79,9 @@ public final class EdgesOfAnswersTest {
 
     private void breaksOfSixteen() {
         due.sentence("promise 10: a text of 16 is broken at 16 too");
-        String[] rows = {SIXTEEN_OTHERS, "LLLLLLLLLLLLLLLL", "EEEEEEEEEEEEEEEE", "LLLLLLLLLLLLLLLO", "CEEEEEEEEEEEEEEE"};
+        String[] rows = {
+            "OOOOOOOOOOOOOOOO", "LLLLLLLLLLLLLLLL", "EEEEEEEEEEEEEEEE", "LLLLLLLLLLLLLLLO", "CEEEEEEEEEEEEEEE",
+        };
         int every = (1 << 17) - 1;
         int ends = 1 + (1 << 16);
         int[] clusters = {every, every, ends, every, ends + 2};

@@ -260,6 +260,8 @@ public final class EdgesOfDescribeTest {
             Given.text(x, 0, 20);
             asked(x, true, 20, what, 5, 6);
             due.is("both", Given.normal(x, 0, 2), "2: 5 6");
+            asked(x, true, 20, what, 5, 0);
+            due.is("b may be 0", Given.normal(x, 0, 2), "2: 5 0");
             asked(x, true, 20, what, 7, -1);
             due.is("only a", Given.normal(x, 0, 2), "1: 7");
             due.is("only a", Given.normal(x, 0, 0), what == 1 ? "1: 7" : "1: 20");
@@ -277,6 +279,8 @@ public final class EdgesOfDescribeTest {
         Given.text(x, 0, 20);
         asked(x, true, 20, 6, 5, 6);
         due.is("both", Given.cased(x, 0, 1), "2: 5 6");
+        asked(x, true, 20, 6, 5, 0);
+        due.is("b may be 0", Given.cased(x, 0, 1), "2: 5 0");
         asked(x, true, 20, 6, 7, -1);
         due.is("only a", Given.cased(x, 0, 1), "1: 7");
         asked(x, false, 20, 6, 5, -2);

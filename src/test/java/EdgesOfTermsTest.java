@@ -15,6 +15,7 @@ public final class EdgesOfTermsTest {
         test.composedIfThereIsOne();
         test.composedWithTheLeastNumber();
         test.composedOverLowerClassesAlone();
+        test.composedOverComposedOnes();
         test.clustersIfThereIsACharacter();
         test.extendsAtTheBeginning();
         test.extendsBehindAControl();
@@ -143,7 +144,15 @@ public final class EdgesOfTermsTest {
         composed(x, "1: 21", 0, 5);
         composed(x, "3: 0 1 5", 0, 1, 5);
         composed(x, "3: 0 6 5", 0, 6, 5);
-        // What 6 and 1 are composed to stands between 0 and 2 with a class of its own.
+    }
+
+    /** What 6 and 1 are composed to stands between 0 and 2 with a class of its own. */
+    private void composedOverComposedOnes() {
+        due.sentence("COMPOSED: no character between them (a composed one) has class 0 or a class of at least that of x");
+        ScriptText x = new ScriptText();
+        Given.described(x, 1, 0, 1, 0);
+        Given.described(x, 2, 0, 2, 0);
+        Given.described(x, 20, 1, 0, 2);
         Given.described(x, 23, 1, 6, 1);
         composed(x, "2: 0 23", 0, 6, 1);
         composed(x, "3: 0 23 2", 0, 6, 1, 2);

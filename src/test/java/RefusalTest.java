@@ -1,8 +1,6 @@
 import java.util.ArrayList;
 import java.util.List;
-import java.util.StringJoiner;
 import java.util.function.Consumer;
-import java.util.function.Function;
 import java.util.function.Supplier;
 import java.util.function.ToLongFunction;
 
@@ -11,63 +9,19 @@ import java.util.function.ToLongFunction;
  * refused there is made, and then every view of the object is as it is without that call.
  */
 public final class RefusalTest {
-    /** Characters that no state describes; the views use them. */
-    private static final int LETTER = 35;
-    private static final int EXTEND = 36;
-    private static final int RIGHT = 37;
-    private static final int BEGIN = 38;
-    private static final int PLAIN = 39;
-
     private record Refusal(String name, ToLongFunction<ScriptText> call, long answer) {
     }
 
-    private record View(String name, Function<ScriptText, String> read) {
-    }
-
     private final Due due = new Due();
-    private final List<View> views = views();
+    private final List<Views.View> views = Views.all();
     private final List<Refusal> refusals = new ArrayList<>();
 
     public static void main(String[] args) {
         RefusalTest test = new RefusalTest();
         test.holdsFor("a new object", ScriptText::new, RefusalTest::refusedByNew);
-        test.holdsFor("a described object", RefusalTest::described, RefusalTest::refusedByDescribed);
-        test.holdsFor("a full object", RefusalTest::full, RefusalTest::refusedByFull);
+        test.holdsFor("a described object", Views::described, RefusalTest::refusedByDescribed);
+        test.holdsFor("a full object", Views::full, RefusalTest::refusedByFull);
         test.due.end("RefusalTest");
-    }
-
-    // States
-
-    private static ScriptText described() {
-        int[][] descriptions = {
-            {2, 0, 2, 0}, {3, 0, 5, 0}, {25, 0, 3, 0}, {20, 1, 1, 2}, {21, 2, 20, 5}, {22, 1, 20, 3}, {23, 1, 1, 3},
-            {23, 4, 1, 0}, {30, 1, 6, -1}, {31, 2, 30, 7}, {20, 5, 8, 0}, {25, 5, 8, 0}, {0, 5, 10, 0}, {47, 5, 9, 0},
-            {20, 6, 11, 12}, {25, 6, 12, 11}, {0, 6, 14, 15}, {47, 6, 13, -1}, {20, 7, 16, 0}, {25, 7, 17, 0},
-            {8, 8, 1, 0}, {9, 8, 2, 0}, {10, 8, 3, 0}, {4, 8, 4, 0}, {5, 8, 5, 0}, {6, 8, 6, 0}, {7, 8, 7, 0},
-            {20, 8, 4, 0}, {25, 8, 4, 0}, {20, 9, 77, 89}, {25, 9, 76, 88}, {0, 9, 50, 23}, {47, 9, 0, 0},
-            {25, 10, 17, 18}, {24, 10, 0, 47}, {10, 12, 11, 30}, {11, 12, 12, 31}, {25, 12, 26, 32}, {25, 12, 25, 33},
-            {1, 12, 2, 34}, {1, 14, 1, 0}, {2, 14, 2, 0}, {3, 14, 3, 0}, {4, 14, 4, 0}, {5, 14, 5, 0}, {6, 14, 6, 0},
-            {25, 14, 1, 0}, {20, 14, 2, 0},
-        };
-        ScriptText x = new ScriptText();
-        for (int[] d : descriptions) {
-            Given.described(x, d[0], d[1], d[2], d[3]);
-        }
-        Given.text(x, 0, 25, 20, 2, 1, 4, 47, 0, 25);
-        x.cased(0, 1);
-        Given.text(x, 1, 20, 25, 26, 3);
-        return x;
-    }
-
-    /** Both texts have 16, there are 6 contractions, and the result is longer than 16. */
-    private static ScriptText full() {
-        ScriptText x = described();
-        Given.described(x, 41, 1, 20, 20);
-        Given.described(x, 12, 12, 13, 27);
-        Given.text(x, 0, 41, 25, 20, 2, 1, 4, 47, 0, 25, 22, 23, 24, 3, 10, 11, 25);
-        Given.text(x, 1, 12, 13, 25, 26, 4, 41, 5, 1, 2, 6, 7, 41, 25, 9, 0, 47);
-        x.normal(0, 2);
-        return x;
     }
 
     // Calls that are refused
@@ -212,6 +166,8 @@ public final class RefusalTest {
         refusedDescribe(40, 1, 21, 21);
         refusedDescribe(40, 2, 22, 20);
         refusedDescribe(25, 2, 21, 22);
+        refusedDescribe(22, 1, 20, 21);
+        refusedDescribe(31, 2, 22, 21);
         refusedDescribe(20, 1, 20, -1);
     }
 
@@ -236,167 +192,12 @@ public final class RefusalTest {
         // Character 41 is twice 1 and 2.
         refusedDescribe(1, 1, 0, 0);
         refusedDescribe(2, 2, 0, 1);
-        refusedDescribe(20, 1, 2, 21);
-        refusedDescribe(20, 2, 19, 20);
+        refusedDescribe(20, 1, 15, 2);
+        refusedDescribe(20, 2, 2, 15);
+        refusedDescribe(41, 1, 21, 20);
     }
 
-    // Views, each with so few calls that a state fits before it
-
-    private static List<View> views() {
-        List<View> views = new ArrayList<>();
-        views.add(new View("the result", Given::result));
-        views.add(new View("taking the result", RefusalTest::taken));
-        for (int text = 0; text < 2; text++) {
-            int t = text;
-            for (int how = 0; how < 4; how++) {
-                int h = how;
-                views.add(new View("form " + h + " of text " + t, x -> Given.normal(x, t, h)));
-                views.add(new View("case " + h + " of text " + t, x -> Given.cased(x, t, h)));
-            }
-            views.add(new View("places of text " + t, x -> places(x, t)));
-            views.add(new View("room in text " + t, x -> room(x, t)));
-        }
-        views.add(new View("order", RefusalTest::order));
-        for (int from = 0; from < 48; from += 16) {
-            addViewsOfCharacters(views, from);
-        }
-        views.add(new View("final forms", RefusalTest::finalForms));
-        views.add(new View("kinds", RefusalTest::kinds));
-        views.add(new View("directions below 24", x -> directions(x, 0)));
-        views.add(new View("directions from 24 on", x -> directions(x, 24)));
-        views.add(new View("room for contractions", RefusalTest::roomForContractions));
-        views.add(new View("room in decompositions", RefusalTest::roomInDecompositions));
-        return views;
-    }
-
-    /** Sixteen characters as text 1, in all forms and cases and with all keys. */
-    private static void addViewsOfCharacters(List<View> views, int from) {
-        for (int how = 0; how < 4; how++) {
-            int h = how;
-            views.add(new View("form " + h + " from " + from, x -> Given.normal(filled(x, from), 1, h)));
-            views.add(new View("case " + h + " from " + from, x -> Given.cased(filled(x, from), 1, h)));
-        }
-        for (int level = 1; level <= 3; level++) {
-            int l = level;
-            views.add(new View("key " + l + " from " + from, x -> Given.key(filled(x, from), 1, l)));
-        }
-    }
-
-    private static ScriptText filled(ScriptText x, int from) {
-        for (int i = 0; i < 16; i++) {
-            x.erase(1, 0);
-        }
-        for (int i = 0; i < 16; i++) {
-            x.insert(1, i, from + i);
-        }
-        return x;
-    }
-
-    private static String taken(ScriptText x) {
-        boolean took = x.take(0);
-        return took + " " + Given.normal(x, 0, 0) + " " + x.take(1);
-    }
-
-    private static String places(ScriptText x, int text) {
-        return Given.levels(x, text, 0) + " " + Given.page(x, text, 0) + " " + Given.levels(x, text, 1) + " "
-            + Given.page(x, text, 1) + " " + x.breaks(text, 0) + " " + x.breaks(text, 1);
-    }
-
-    private static String room(ScriptText x, int text) {
-        int inserted = 0;
-        for (int i = 0; i < 17; i++) {
-            inserted += x.insert(text, i, PLAIN) ? 1 : 0;
-        }
-        int erased = 0;
-        for (int i = 0; i < 17; i++) {
-            erased += x.erase(text, 0) ? 1 : 0;
-        }
-        return inserted + " in, " + erased + " out";
-    }
-
-    private static String order(ScriptText x) {
-        StringJoiner row = new StringJoiner(" ");
-        for (int level = 1; level <= 4; level++) {
-            row.add("" + x.compare(level)).add("" + x.search(level));
-        }
-        for (int form = 0; form < 4; form++) {
-            row.add("" + x.isNormal(0, form)).add("" + x.isNormal(1, form));
-        }
-        return row.toString();
-    }
-
-    private static String finalForms(ScriptText x) {
-        x.describe(LETTER, 8, 4, 0);
-        Given.text(x, 1, LETTER, LETTER);
-        StringJoiner row = new StringJoiner(" ");
-        for (int c = 0; c < 48; c++) {
-            x.erase(1, 1);
-            x.insert(1, 1, c);
-            x.cased(1, 0);
-            row.add("" + x.result(1));
-        }
-        return row.toString();
-    }
-
-    private static String kinds(ScriptText x) {
-        x.describe(LETTER, 8, 4, 0);
-        x.describe(EXTEND, 8, 2, 0);
-        Given.text(x, 1, LETTER, PLAIN, LETTER, PLAIN, EXTEND);
-        StringJoiner row = new StringJoiner(" ");
-        for (int c = 0; c < 48; c++) {
-            x.erase(1, 3);
-            x.insert(1, 3, c);
-            x.erase(1, 1);
-            x.insert(1, 1, c);
-            row.add("" + x.breaks(1, 0)).add("" + x.breaks(1, 1));
-        }
-        return row.toString();
-    }
-
-    private static String directions(ScriptText x, int from) {
-        x.describe(RIGHT, 14, 1, 0);
-        x.describe(BEGIN, 14, 4, 0);
-        Given.text(x, 1, PLAIN, PLAIN, PLAIN, RIGHT, PLAIN, RIGHT, BEGIN, PLAIN, PLAIN, RIGHT);
-        StringJoiner row = new StringJoiner(" ");
-        for (int c = from; c < from + 24; c++) {
-            for (int at = 1; at <= 7; at += 3) {
-                x.erase(1, at);
-                x.insert(1, at, c);
-                row.add("" + x.level(1, 0, at));
-            }
-            row.add("" + x.level(1, 0, 9));
-        }
-        return row.toString();
-    }
-
-    /** How many more there may be, and what the pairs that were described mean. */
-    private static String roomForContractions(ScriptText x) {
-        int[][] pairs = {{10, 11}, {11, 12}, {25, 26}, {25, 25}, {1, 2}, {12, 13}, {20, 0}, {20, 26}, {25, 0}, {0, 0}, {47, 0}};
-        StringJoiner row = new StringJoiner(" ");
-        for (int[] pair : pairs) {
-            Given.text(x, 1, pair[0], pair[1]);
-            row.add(Given.key(x, 1, 1) + ",");
-        }
-        for (int i = 0; i < 7; i++) {
-            row.add("" + x.describe(PLAIN, 12, i, 46));
-        }
-        return row.toString();
-    }
-
-    /** Whether each character may still be made a pair, or three. */
-    private static String roomInDecompositions(ScriptText x) {
-        StringJoiner row = new StringJoiner(" ");
-        Given.described(x, RIGHT, 1, LETTER, EXTEND);
-        for (int c = RIGHT + 1; c < 48; c++) {
-            row.add("" + x.describe(c, 2, RIGHT, c - 1));
-        }
-        for (int c = 1; c < 48; c++) {
-            row.add("" + x.describe(c, 2, 0, 0)).add("" + x.describe(c, 3, 0, 0));
-        }
-        return row.toString();
-    }
-
-    // Refusing
+    // Making them
 
     private void holdsFor(String state, Supplier<ScriptText> make, Consumer<RefusalTest> own) {
         due.sentence("promise 16: a call that is refused changes nothing, in " + state);
@@ -404,7 +205,7 @@ public final class RefusalTest {
         refusedByAll();
         own.accept(this);
         List<String> before = new ArrayList<>();
-        for (View view : views) {
+        for (Views.View view : views) {
             before.add(view.read().apply(make.get()));
         }
         for (Refusal refusal : refusals) {

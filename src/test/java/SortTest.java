@@ -14,7 +14,6 @@ public final class SortTest {
         leastPlaceAndEnd(due);
         onlyAtClusters(due);
         partsAreTakenAlone(due);
-        callsLeaveTheResult(due);
         due.end("SortTest");
     }
 
@@ -209,20 +208,5 @@ public final class SortTest {
         searched(due, x, 32 + 2, 32 + 2, 32 + 2, 32 + 2);
         Given.text(x, 1, 8, 9);
         searched(due, x, 2, 2, 2, 2);
-    }
-
-    private static void callsLeaveTheResult(Due due) {
-        ScriptText x = new ScriptText();
-        Given.text(x, 0, 7, 8, 9);
-        Given.text(x, 1, 8);
-        x.normal(0, 0);
-        x.key(1, 1, 0);
-        x.compare(4);
-        x.search(4);
-        x.breaks(0, 1);
-        x.onPage(0, 1, 0);
-        due.is("the result", Given.result(x), "7 8 9");
-        due.is("text 0", Given.plain(x, 0), "7 8 9");
-        due.is("text 1", Given.plain(x, 1), "8");
     }
 }
