@@ -5,8 +5,9 @@ import java.util.function.Consumer;
 public final class AskingTest {
     private static final List<Consumer<ScriptText>> QUESTIONS = List.of(
         x -> x.isNormal(0, 3), x -> x.isNormal(1, 0), x -> x.result(0), x -> x.result(5), x -> x.breaks(0, 0),
-        x -> x.breaks(1, 1), x -> x.level(0, 0, 3), x -> x.level(1, 1, 2), x -> x.onPage(0, 1, 3), x -> x.onPage(1, 0, 0),
-        x -> x.key(0, 1, 2), x -> x.key(1, 3, 0), x -> x.compare(1), x -> x.compare(4), x -> x.search(1), x -> x.search(4));
+        x -> x.breaks(1, 1), x -> x.level(0, 0, 3), x -> x.level(1, 1, 2), x -> x.onPage(0, 1, 3),
+        x -> x.onPage(1, 0, 0), x -> x.key(0, 1, 2), x -> x.key(1, 3, 0), x -> x.compare(1), x -> x.compare(4),
+        x -> x.search(1), x -> x.search(4));
 
     public static void main(String[] args) {
         Due due = new Due();

@@ -54,7 +54,8 @@ public final class CaseTest {
     private static void lower(Due due, String want, int... characters) {
         ScriptText x = script();
         Given.text(x, 1, characters);
-        due.is("lower of " + java.util.Arrays.toString(characters), Given.cased(x, 1, 0), characters.length + ": " + want);
+        String call = "lower of " + java.util.Arrays.toString(characters);
+        due.is(call, Given.cased(x, 1, 0), characters.length + ": " + want);
     }
 
     private static void finalForms(Due due) {

@@ -16,6 +16,7 @@ public final class EdgesOfTermsTest {
         test.composedWithTheLeastNumber();
         test.composedOverLowerClassesAlone();
         test.composedOverComposedOnes();
+        test.composedInThePlaceOfS();
         test.clustersIfThereIsACharacter();
         test.extendsAtTheBeginning();
         test.extendsBehindAControl();
@@ -27,6 +28,7 @@ public final class EdgesOfTermsTest {
         test.keysThatEndFirst();
         test.formsThatEndFirst();
         test.embeddingsOverSix();
+        test.embeddingsOverSixByThemselves();
         test.embeddingsOverSixAreEnded();
         test.endsWithNothingToEnd();
         test.baseAtTheEnds();
@@ -148,7 +150,7 @@ public final class EdgesOfTermsTest {
 
     /** What 6 and 1 are composed to stands between 0 and 2 with a class of its own. */
     private void composedOverComposedOnes() {
-        due.sentence("COMPOSED: no character between them (a composed one) has class 0 or a class of at least that of x");
+        due.sentence("COMPOSED: no character between them (a composed one too) has class 0 or a class of at least x's");
         ScriptText x = new ScriptText();
         Given.described(x, 1, 0, 1, 0);
         Given.described(x, 2, 0, 2, 0);
@@ -162,6 +164,29 @@ public final class EdgesOfTermsTest {
         composed(x, "3: 0 23 2", 0, 6, 1, 2);
         Given.described(x, 23, 0, 9, 0);
         composed(x, "3: 0 23 2", 0, 6, 1, 2);
+    }
+
+    /** What 0 and 1 are composed to has its own class, whatever the class of 0. */
+    private void composedInThePlaceOfS() {
+        due.sentence("COMPOSED: that one takes the place of s, and x is taken out");
+        ScriptText x = new ScriptText();
+        Given.described(x, 1, 0, 1, 0);
+        Given.described(x, 2, 0, 2, 0);
+        Given.described(x, 20, 1, 0, 1);
+        Given.described(x, 21, 1, 20, 2);
+        Given.described(x, 22, 1, 20, 6);
+        Given.described(x, 23, 1, 5, 2);
+        composed(x, "3: 5 20 7", 5, 0, 1, 7);
+        composed(x, "2: 5 21", 5, 0, 1, 2);
+        composed(x, "2: 5 22", 5, 0, 1, 6);
+        Given.described(x, 20, 0, 1, 0);
+        composed(x, "2: 20 2", 0, 1, 2);
+        composed(x, "2: 20 6", 0, 1, 6);
+        composed(x, "2: 23 20", 5, 0, 1, 2);
+        // It is not ordered again, and a greater class is in the way.
+        Given.described(x, 20, 0, 9, 0);
+        composed(x, "2: 20 2", 0, 1, 2);
+        composed(x, "3: 5 20 2", 5, 0, 1, 2);
     }
 
     // CLUSTERS and WORDS
@@ -407,9 +432,18 @@ public final class EdgesOfTermsTest {
         levels("(((R", 1, "1355");
         levels("[[[L", 1, "1246");
         levels("[[[[L", 1, "12466");
-        levels("(((([L", 0, "013556");
         levels("((((((((((((((((", 0, "0135555555555555");
         levels("[[[[[[[[[[[[[[[[", 0, "0246666666666666");
+    }
+
+    /** Behind one that makes nothing, another may still make something. */
+    private void embeddingsOverSixByThemselves() {
+        due.sentence("ORDER ON THE PAGE: a 4 or 5 that would make it more than 6 (each by what that one would make)");
+        levels("(((([L", 0, "013556");
+        levels("((([L", 1, "13556");
+        levels("((((([[R", 0, "01355567");
+        levels("((((([[R)))))R", 0, "01355567655533");
+        levels("[[[([L", 0, "024666");
     }
 
     private void embeddingsOverSixAreEnded() {

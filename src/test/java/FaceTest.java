@@ -2,19 +2,37 @@ import java.lang.reflect.Constructor;
 import java.lang.reflect.Field;
 import java.lang.reflect.Method;
 import java.lang.reflect.Modifier;
+import java.nio.file.Files;
+import java.nio.file.Path;
+import java.util.List;
 import java.util.Set;
 import java.util.TreeSet;
 
-/** The public face: the members of the document, and no other that is not private. */
+/**
+ * The public face: the members of the document, and no other that is not private. The arguments
+ * are the paths of the source and of the document.
+ */
 public final class FaceTest {
-    public static void main(String[] args) {
+    public static void main(String[] args) throws Exception {
         Due due = new Due();
+        List<String> source = publicLines(Path.of(args[0]));
+        List<String> document = publicLines(Path.of(args[1]));
+        due.is("the public lines of the source", String.join("\n", source), String.join("\n", document));
+        due.is("the lines of the face", document.size(), 16);
+        due.is("the parent", ScriptText.class.getSuperclass().getName(), "java.lang.Object");
+        due.is("the interfaces", ScriptText.class.getInterfaces().length, 0);
         due.is("the class's modifiers", Modifier.toString(ScriptText.class.getModifiers()), "public final");
         due.is("the constructors", constructors().toString(), "[public ScriptText()]");
         due.is("the methods", methods().toString(), face().toString());
         due.is("the fields that are not private", openFields().toString(), "[]");
         due.is("the nested classes", ScriptText.class.getDeclaredClasses().length, 0);
         due.end("FaceTest");
+    }
+
+    /** The lines that begin with public, without what ends them in a source or in the document. */
+    private static List<String> publicLines(Path file) throws Exception {
+        return Files.readAllLines(file).stream().map(String::strip).filter(line -> line.startsWith("public "))
+            .map(line -> line.replaceAll("[ {;]+$", "")).toList();
     }
 
     private static Set<String> face() {

@@ -175,7 +175,9 @@ final class Model {
                 s--;
             }
             int whole = s < 0 ? -1 : whole(row.get(s), x);
-            if (whole >= 0 && row.subList(s + 1, i).stream().noneMatch(c -> combining(c) == 0 || combining(c) >= combining(x))) {
+            List<Integer> between = row.subList(s + 1, i);
+            boolean open = between.stream().noneMatch(c -> combining(c) == 0 || combining(c) >= combining(x));
+            if (whole >= 0 && open) {
                 row.set(s, whole);
                 row.remove(i);
             } else {
