@@ -439,7 +439,9 @@ public final class EdgesOfTermsTest {
     /** Behind one that makes nothing, another may still make something. */
     private void embeddingsOverSixByThemselves() {
         due.sentence("ORDER ON THE PAGE: a 4 or 5 that would make it more than 6 (each by what that one would make)");
+        levels("(((([R", 0, "013557");
         levels("(((([L", 0, "013556");
+        levels("((([R", 1, "13557");
         levels("((([L", 1, "13556");
         levels("((((([[R", 0, "01355567");
         levels("((((([[R)))))R", 0, "01355567655533");
